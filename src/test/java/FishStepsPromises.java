@@ -1,64 +1,7 @@
 /** Each promise of the document by itself: ordinary calls, its edges, and wrong ones; reckoned by hand. */
-public final class FishStepsPromises {
-    private static final int MIN = Integer.MIN_VALUE, MAX = Integer.MAX_VALUE;
-    private static int wrong = 0, asked = 0;
-    private static String promise = "";
-
-    private static void due(String call, long got, long want) {
-        asked++;
-        if (got == want) return;
-        wrong++;
-        System.out.println("promise " + promise + ": " + call + " answered " + got + ", due is " + want);
-    }
-
-    private static void type(FishSteps x, String text) {
-        for (int at = 0; at < text.length(); at += 8) {
-            int n = Math.min(8, text.length() - at);
-            long w = 0;
-            for (int i = 0; i < n; i++) w = w << 8 | text.charAt(at + i);
-            if (x.type(w, n) < 0) due("type(" + text + ")", -1, 0);
-        }
-    }
-
-    private static int rules(FishSteps x, String law) {
-        type(x, law);
-        return x.rules();
-    }
-
-    private static int lots(FishSteps x, String kinds) {
-        type(x, kinds);
-        return x.lots();
-    }
-
-    /** A house by a law and lots; its buyers come by `come`. */
-    private static FishSteps house(String law, String kinds) {
-        FishSteps x = new FishSteps();
-        rules(x, law);
-        lots(x, kinds);
-        return x;
-    }
-
-    /** A buyer with one worth for all kinds. */
-    private static void come(FishSteps x, int sort, int purse, int worth, int margin) {
-        int b = x.buyer(sort, purse);
-        for (int k = 0; k < 4; k++) x.worth(b, k, worth);
-        x.margin(b, margin);
-    }
-
-    private static void lotIs(FishSteps x, int lot, int who, int price, int breath, int bells) {
-        due("lot(" + lot + ", 1)", x.lot(lot, 1), who);
-        due("lot(" + lot + ", 2)", x.lot(lot, 2), price);
-        due("lot(" + lot + ", 3)", x.lot(lot, 3), breath);
-        due("lot(" + lot + ", 4)", x.lot(lot, 4), bells);
-    }
-
-    private static void spanIs(FishSteps x, int buyer, int kind, int least, int most) {
-        due("span(" + buyer + ", " + kind + ", 0)", x.span(buyer, kind, 0), least);
-        due("span(" + buyer + ", " + kind + ", 1)", x.span(buyer, kind, 1), most);
-    }
-
+public final class FishStepsPromises extends Asks {
     private static void p1NewObject() {
-        promise = "1";
+        of("promise 1");
         FishSteps x = new FishSteps();
         for (int what = 0; what <= 4; what++) due("count(" + what + ")", x.count(what), 0);
         due("told(0, 0)", x.told(0, 0), -100001);
@@ -68,7 +11,7 @@ public final class FishStepsPromises {
     }
 
     private static void p2Rule() {
-        promise = "2";
+        of("promise 2");
         FishSteps x = new FishSteps();
         int[] first = {60, 1, 1, 0, 0}, least = {1, 1, 0, 0, 0}, most = {99, 9, 99, 1, 99};
         for (int r = 0; r < 5; r++) {
@@ -87,7 +30,7 @@ public final class FishStepsPromises {
     }
 
     private static void p3Buyer() {
-        promise = "3";
+        of("promise 3");
         FishSteps x = new FishSteps();
         due("buyer(-1, 5)", x.buyer(-1, 5), -1);
         due("buyer(5, 5)", x.buyer(5, 5), -1);
@@ -109,7 +52,7 @@ public final class FishStepsPromises {
     }
 
     private static void p4Worth() {
-        promise = "4";
+        of("promise 4");
         FishSteps x = new FishSteps();
         due("worth(0, 0, 1)", x.worth(0, 0, 1), -1);
         x.buyer(0, 9);
@@ -135,7 +78,7 @@ public final class FishStepsPromises {
     }
 
     private static void p5Margin() {
-        promise = "5";
+        of("promise 5");
         FishSteps x = new FishSteps();
         due("margin(0, 1)", x.margin(0, 1), -1);
         x.buyer(0, 9);
@@ -152,7 +95,7 @@ public final class FishStepsPromises {
     }
 
     private static void p6Told() {
-        promise = "6";
+        of("promise 6");
         FishSteps x = new FishSteps();
         x.buyer(2, 321);
         x.margin(0, 12);
@@ -167,7 +110,7 @@ public final class FishStepsPromises {
     }
 
     private static void p7Earn() {
-        promise = "7";
+        of("promise 7");
         FishSteps x = new FishSteps();
         due("earn(0, 1)", x.earn(0, 1), -100001);
         x.buyer(0, 999);
@@ -191,7 +134,7 @@ public final class FishStepsPromises {
     }
 
     private static void p8Type() {
-        promise = "8";
+        of("promise 8");
         FishSteps x = new FishSteps();
         due("type(.., 0)", x.type(0x3031323334353637L, 0), -1);
         due("type(.., 9)", x.type(0x3031323334353637L, 9), -1);
@@ -221,15 +164,8 @@ public final class FishStepsPromises {
         due("type of eight with a sign", x.type(0x8031323334353637L, 8), -1);
     }
 
-    private static void lawIs(FishSteps x, int... law) {
-        for (int r = 0; r < 5; r++) {
-            int was = x.rule(r, law[r]);
-            due("rule " + r, was, law[r]);
-        }
-    }
-
     private static void p9Rules() {
-        promise = "9";
+        of("promise 9");
         FishSteps x = new FishSteps();
         due("rules()", x.rules(), -20);
         due("all, in another order", rules(x, "c7b1f3d2s50"), 5);
@@ -259,7 +195,7 @@ public final class FishStepsPromises {
     }
 
     private static void p10Lots() {
-        promise = "10";
+        of("promise 10");
         FishSteps x = new FishSteps();
         due("lots()", x.lots(), -20);
         due("one", lots(x, "3"), 1);
@@ -283,7 +219,7 @@ public final class FishStepsPromises {
     }
 
     private static void p11Count() {
-        promise = "11";
+        of("promise 11");
         FishSteps x = house("s50f40c60", "0121");
         come(x, 4, 10, 50, 0);
         come(x, 0, 0, 50, 0);
@@ -306,7 +242,7 @@ public final class FishStepsPromises {
     }
 
     private static void p12Lot() {
-        promise = "12";
+        of("promise 12");
         FishSteps x = house("s60 d4 f10", "0");
         come(x, 0, 100, 50, 5);
         lotIs(x, 0, 0, 44, 4, 0);
@@ -327,7 +263,7 @@ public final class FishStepsPromises {
         due("lot(-1, 0)", x.lot(-1, 0), -1);
         due("lot(MAX, 0)", x.lot(MAX, 0), -1);
 
-        promise = "12, sorts";
+        of("promise 12, sorts");
         FishSteps bold = house("s60", "0");
         come(bold, 3, 100, 50, 5);
         lotIs(bold, 0, 0, 48, 12, 0);
@@ -357,7 +293,7 @@ public final class FishStepsPromises {
         poor.margin(0, 10);
         lotIs(poor, 0, -4, -4, 3, 0);
 
-        promise = "12, bells";
+        of("promise 12, bells");
         FishSteps bells = house("s60 d4 b1", "0");
         come(bells, 0, 100, 50, 0);
         come(bells, 0, 100, 49, 0);
@@ -388,7 +324,7 @@ public final class FishStepsPromises {
     }
 
     private static void p13Gain() {
-        promise = "13";
+        of("promise 13");
         FishSteps x = house("s60", "012");
         come(x, 2, 200, 50, 5);
         come(x, 0, 200, 40, 7);
@@ -403,15 +339,8 @@ public final class FishStepsPromises {
         due("gain without lots", withoutLots().gain(0), 0);
     }
 
-    private static FishSteps withoutLots() {
-        FishSteps x = new FishSteps();
-        come(x, 0, 200, 50, 5);
-        come(x, 0, 200, 50, 5);
-        return x;
-    }
-
     private static void p14Till() {
-        promise = "14";
+        of("promise 14");
         FishSteps x = house("s60 f20", "012");
         come(x, 0, 100, 50, 4);
         come(x, 0, 100, 40, 1);
@@ -468,7 +397,7 @@ public final class FishStepsPromises {
     }
 
     private static void p15Morning() {
-        promise = "15";
+        of("promise 15");
         FishSteps none = withoutLots();
         due("morning() without lots", none.morning(), -2);
         due("count(2)", none.count(2), 0);
@@ -489,7 +418,7 @@ public final class FishStepsPromises {
     }
 
     private static void p16Span() {
-        promise = "16";
+        of("promise 16");
         FishSteps x = house("s60", "0");
         come(x, 0, 100, 50, 5);
         come(x, 0, 100, 40, 7);
@@ -521,7 +450,7 @@ public final class FishStepsPromises {
         spanIs(x, 1, 0, 0, 46);
         spanIs(x, 4, 0, 0, 46);
 
-        promise = "16, who goes back, has no room";
+        of("promise 16, who goes back, has no room");
         FishSteps back = house("s60 d7 f30", "00");
         come(back, 0, 100, 20, 3);
         come(back, 2, 100, 40, 2);
@@ -552,7 +481,7 @@ public final class FishStepsPromises {
         spanIs(room, 1, 0, 0, 49);
         spanIs(room, 1, 1, 40, 99);
 
-        promise = "16, price and margin above 99";
+        of("promise 16, price and margin above 99");
         FishSteps high = house("s90", "0");
         come(high, 0, 100, 95, 0);
         come(high, 0, 100, 60, 40);
@@ -562,7 +491,7 @@ public final class FishStepsPromises {
     }
 
     private static void p17Hush() {
-        promise = "17";
+        of("promise 17");
         FishSteps x = house("s60", "01");
         come(x, 0, 200, 50, 0);
         come(x, 0, 200, 40, 0);
@@ -577,7 +506,7 @@ public final class FishStepsPromises {
     }
 
     private static void p18Best() {
-        promise = "18";
+        of("promise 18");
         FishSteps x = house("s60 f1", "0");
         come(x, 0, 100, 50, 5);
         come(x, 0, 100, 40, 0);
@@ -599,7 +528,7 @@ public final class FishStepsPromises {
     }
 
     private static void p19Rests() {
-        promise = "19";
+        of("promise 19");
         FishSteps empty = house("s60", "0");
         due("rests(-1)", empty.rests(-1), -2);
         due("rests(4)", empty.rests(4), -2);
@@ -649,7 +578,7 @@ public final class FishStepsPromises {
     }
 
     private static void p20Order() {
-        promise = "20";
+        of("promise 20");
         FishSteps none = withoutLots();
         due("order(-1)", none.order(-1), -2);
         due("order(5)", none.order(5), -2);
@@ -682,7 +611,7 @@ public final class FishStepsPromises {
     }
 
     private static void p21Ring() {
-        promise = "21";
+        of("promise 21");
         FishSteps x = house("s60 f1", "01");
         come(x, 0, 100, 50, 0);
         come(x, 0, 100, 45, 0);
@@ -714,7 +643,7 @@ public final class FishStepsPromises {
     }
 
     private static void p22p23Image() {
-        promise = "22, 23";
+        of("promise 22, 23");
         FishSteps x = house("s60 d2 f1 b0 c3", "01");
         due("restore()", x.restore(), -4);
         come(x, 0, 100, 50, 5);
@@ -772,7 +701,7 @@ public final class FishStepsPromises {
     }
 
     private static void p24Which() {
-        promise = "24";
+        of("promise 24");
         FishSteps x = ringed();
         due("which of no sheet", x.which(0, 1, 0, 0), -11);
         x.sheet(0, 1, 6);
@@ -827,7 +756,7 @@ public final class FishStepsPromises {
     }
 
     private static void p25Film() {
-        promise = "25";
+        of("promise 25");
         FishSteps x = house("s60 f46", "012");
         come(x, 0, 100, 50, 0);
         due("film of no sheet", x.film(0, 1, 0), -11);
@@ -868,7 +797,7 @@ public final class FishStepsPromises {
     }
 
     private static void p26p27Sheet() {
-        promise = "26, 27";
+        of("promise 26, 27");
         FishSteps x = new FishSteps();
         for (int s = 0; s < 4; s++) {
             due("drop of nothing", x.drop(s), -11);
@@ -901,7 +830,7 @@ public final class FishStepsPromises {
     }
 
     private static void p28Item() {
-        promise = "28";
+        of("promise 28");
         FishSteps x = house("s60 f0", "0");
         come(x, 0, 100, 50, 0);
         int[] lanes = {0, 1, 2};
@@ -938,7 +867,7 @@ public final class FishStepsPromises {
     }
 
     private static void p29Copy() {
-        promise = "29";
+        of("promise 29");
         FishSteps x = house("s60 f0", "0");
         come(x, 0, 100, 50, 0);
         due("copy of nothing", x.copy(0, 0, 1, 0, 0), -11);
@@ -1008,7 +937,6 @@ public final class FishStepsPromises {
         p26p27Sheet();
         p28Item();
         p29Copy();
-        System.out.println(asked + " answers asked for: " + (wrong == 0 ? "all as due" : wrong + " not as due"));
-        if (wrong != 0) System.exit(1);
+        end();
     }
 }
