@@ -364,6 +364,10 @@ public final class EdgesOfBest extends Asks {
         lots(x, "0");
         due("rests(-1) behind it", x.rests(-1) > 0 ? 1 : 0, 1);
         due("rests(1) behind it", x.rests(1) >= 0 ? 1 : 0, 1);
+        lots(x, "01");
+        due("rests(0) behind a row", x.rests(0), -4);
+        due("rests(1) behind a row", x.rests(1), -4);
+        due("rests(-1) behind a row", x.rests(-1), 0);
     }
 
     // ---- 20
