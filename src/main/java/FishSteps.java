@@ -468,12 +468,15 @@ public final class FishSteps {
     }
 
     private boolean isAtRest(int r, int rows) {
+        if (r < 0 || r >= rows || rows > REST_ROWS) {
+            return false;
+        }
         for (int b = 0; b < BUYERS && b < books.buyers; b++) {
             int shift = digitShift(b);
             int others = r & ~(3 << shift);
             for (int digit = 0; digit < 4; digit++) {
                 int other = others | digit << shift;
-                if (other < rows && restGains[other * BUYERS + b] > restGains[r * BUYERS + b]) {
+                if (other >= 0 && other < rows && restGains[other * BUYERS + b] > restGains[r * BUYERS + b]) {
                     return false;
                 }
             }
@@ -483,7 +486,7 @@ public final class FishSteps {
 
     /** Puts into bestRow the order of lots that brings most, and answers what it brings. */
     private int findBestRow() {
-        int n = Math.min(LOTS, books.lots);
+        int n = Math.max(0, Math.min(LOTS, books.lots));
         steps.takeMargins(books);
         for (int k = 0; k < n; k++) {
             row[k] = k;
@@ -505,7 +508,7 @@ public final class FishSteps {
 
     /** Lots of one kind bring the same in each other's places, so only the row that has them in order counts. */
     private boolean isFirstOfItsLike(int n) {
-        for (int late = 1; late < n; late++) {
+        for (int late = 1; late < LOTS && late < n; late++) {
             for (int early = 0; early < late; early++) {
                 if (row[early] > row[late] && books.kindOf(row[early]) == books.kindOf(row[late])) {
                     return false;
@@ -518,7 +521,7 @@ public final class FishSteps {
     private int tillOfRow(int n) {
         steps.begin(books);
         int sum = 0;
-        for (int k = 0; k < n; k++) {
+        for (int k = 0; k < LOTS && k < n; k++) {
             steps.fallLot(books, row[k], 0);
             sum += steps.settle(books, row[k]);
         }
@@ -527,6 +530,9 @@ public final class FishSteps {
 
     /** Makes of row the next one by numbers; false behind the last. */
     private boolean nextRow(int n) {
+        if (n < 0 || n > LOTS) {
+            return false;
+        }
         int up = n - 2;
         while (up >= 0 && row[up] > row[up + 1]) {
             up--;
@@ -922,7 +928,7 @@ public final class FishSteps {
                     return BAD;
                 }
             }
-            if (length + n > BYTES) {
+            if (length < 0 || length + n > BYTES) {
                 return FULL;
             }
             for (int i = n - 1; i >= 0; i--) {
